@@ -138,7 +138,7 @@ public final class ColorCover {
     }
 
     public boolean isCover(int mask) {
-        // The unsigned shift keeps bit 31 in sight: a negative mask is refused.
+        // This sees bit 31 as well, so a negative mask is refused.
         if ((mask >>> closedOptions) != 0) {
             return false;
         }

@@ -1,6 +1,6 @@
 /** All promises: long mixed runs of calls, each answer held against PlainCover. */
 public final class MixedRunsTest {
-    private static final int RUNS = 400;
+    private static final int RUNS = 200;
     private static final int CALLS = 250;
 
     // A fixed sequence of mixed numbers, so that every run of the test makes the same calls.

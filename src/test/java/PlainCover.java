@@ -128,8 +128,8 @@ final class PlainCover {
 
     private List<Integer> coloursOf(int item, int mask) {
         List<Integer> colours = new ArrayList<>();
-        for (int opt : listOf(mask)) {
-            Integer colour = colourIn(options.get(opt), item);
+        for (int opt = 0; opt < options.size(); opt++) {
+            Integer colour = (mask & 1 << opt) == 0 ? null : colourIn(options.get(opt), item);
             if (colour != null) {
                 colours.add(colour);
             }

@@ -9,6 +9,7 @@ public final class SolveTest {
         storesSixtyFour();
         countsAroundSixtyFour();
         longestCover();
+        widestSearch();
         ignoresPending();
         solvesAgain();
         resultsEnd();
@@ -138,6 +139,30 @@ public final class SolveTest {
             "0 1 2 3 4 5 6 7 8 9 10 11 | 0 1 2 3 4 5 6 7 8 9 10 12 | 0 1 2 3 4 5 6 7 8 9 10 15");
         Check.due("solutionOption(0, 11)", x.solutionOption(0, 11), 11);
         Check.due("solutionOption(0, 12)", x.solutionOption(0, 12), ColorCover.NONE);
+    }
+
+    /** One option for each of the twelve items and a second for the first four: very few lists begin with a clash. */
+    private static void widestSearch() {
+        ColorCover x = new ColorCover(12, 8);
+        for (int opt = 0; opt < 16; opt++) {
+            Check.option(x, opt % 12, 0, 12 + opt % 8, 1 + opt % 8);
+        }
+        Check.due("solve()", x.solve(), 16);
+        for (int k = 0; k < 16; k++) {
+            int mask = 0;
+            for (int item = 0; item < 12; item++) {
+                mask |= 1 << (item < 4 && (k >> (3 - item) & 1) != 0 ? item + 12 : item);
+            }
+            Check.due("isCover(" + mask + ")", x.isCover(mask), true);
+            int position = 0;
+            for (int opt = 0; opt < 16; opt++) {
+                if ((mask >> opt & 1) != 0) {
+                    Check.due("solutionOption(" + k + ", " + position + ")", x.solutionOption(k, position), opt);
+                    position++;
+                }
+            }
+            Check.due("solutionSize(" + k + ")", x.solutionSize(k), 12);
+        }
     }
 
     private static void ignoresPending() {
