@@ -1,6 +1,6 @@
 /** All promises: long mixed runs of calls, each answer held against PlainCover. */
 public final class MixedRunsTest {
-    private static final int RUNS = 200;
+    private static final int RUNS = 120;
     private static final int CALLS = 250;
 
     // A fixed sequence of mixed numbers, so that every run of the test makes the same calls.
@@ -23,9 +23,9 @@ public final class MixedRunsTest {
             for (int call = 0; call < CALLS; call++) {
                 oneCall(colours, most);
             }
-            compareAll();
+            Check.same("at the end of run " + run, x, plain);
         }
-        Check.due("runs that solve to a cover were made", coversSeen > 200, true);
+        Check.due("runs that solve to a cover were made", coversSeen > 100, true);
         Check.due("runs with more than 64 covers were made", overflowsSeen > 5, true);
         Check.finish();
     }
@@ -36,7 +36,7 @@ public final class MixedRunsTest {
     }
 
     private static int oddOr(int bound) {
-        return below(12) == 0 ? Check.ODD_INTS[below(Check.ODD_INTS.length)] : below(bound + 1) - 1;
+        return below(12) == 0 ? Check.EDGE_INTS[below(Check.EDGE_INTS.length)] : below(bound + 1) - 1;
     }
 
     private static void oneCall(int colours, int most) {
@@ -75,10 +75,7 @@ public final class MixedRunsTest {
         Check.due("solve()", x.solve(), want);
         coversSeen += want > 0 ? 1 : 0;
         overflowsSeen += want > 64 ? 1 : 0;
-        compareAll();
-        for (int mask = 0; mask < 1 << plain.options.size(); mask += 1 + below(64)) {
-            Check.due("isCover(" + mask + ")", x.isCover(mask), plain.isCover(mask));
-        }
+        Check.sameNow("after solve()", x, plain);
     }
 
     private static void read(int opt, int idx, int k) {
@@ -87,17 +84,5 @@ public final class MixedRunsTest {
         Check.due("solutionCount()", x.solutionCount(), plain.solutionCount());
         Check.due("solutionSize(" + k + ")", x.solutionSize(k), plain.solutionSize(k));
         Check.due("solutionOption(" + k + ", " + idx + ")", x.solutionOption(k, idx), plain.solutionOption(k, idx));
-    }
-
-    private static void compareAll() {
-        Check.due("primaryCount()", x.primaryCount(), plain.primaries);
-        Check.due("secondaryCount()", x.secondaryCount(), plain.secondaries);
-        Check.due("optionCount()", x.optionCount(), plain.options.size());
-        Check.due("pendingSize()", x.pendingSize(), plain.pending.size());
-        for (int first = -1; first <= 65; first++) {
-            for (int second = -1; second <= 20; second++) {
-                read(first, second, first);
-            }
-        }
     }
 }

@@ -26,7 +26,7 @@ final class PlainCover {
         if (item < primaries && colour != 0) {
             return -3;
         }
-        if (colourIn(pending, item) != null) {
+        if (colourIn(pending, item) != -1) {
             return -4;
         }
         if (options.stream().mapToInt(List::size).sum() + pending.size() >= 64) {
@@ -83,12 +83,29 @@ final class PlainCover {
             }
         }
         for (int item = 0; item < primaries + secondaries; item++) {
-            List<Integer> colours = coloursOf(item, mask);
-            if (item < primaries ? colours.size() != 1 : !mayMeet(colours)) {
+            if (!isCoveredWell(item, mask)) {
                 return false;
             }
         }
         return true;
+    }
+
+    private boolean isCoveredWell(int item, int mask) {
+        int members = 0;
+        int colour = 0;
+        boolean allEqual = true;
+        for (int opt = 0; opt < options.size(); opt++) {
+            int here = (mask & 1 << opt) == 0 ? -1 : colourIn(options.get(opt), item);
+            if (here != -1) {
+                allEqual &= members == 0 || here == colour;
+                colour = here;
+                members++;
+            }
+        }
+        if (item < primaries) {
+            return members == 1;
+        }
+        return members <= 1 || allEqual && colour != 0;
     }
 
     int solve() {
@@ -117,31 +134,14 @@ final class PlainCover {
         return solutionSize(k) == -1 || j < 0 || j >= solutionSize(k) ? -1 : stored.get(k).get(j);
     }
 
-    private static Integer colourIn(List<int[]> entries, int item) {
+    /** The colour that the entries give the item, or -1 if they don't have it. */
+    private static int colourIn(List<int[]> entries, int item) {
         for (int[] entry : entries) {
             if (entry[0] == item) {
                 return entry[1];
             }
         }
-        return null;
-    }
-
-    private List<Integer> coloursOf(int item, int mask) {
-        List<Integer> colours = new ArrayList<>();
-        for (int opt = 0; opt < options.size(); opt++) {
-            Integer colour = (mask & 1 << opt) == 0 ? null : colourIn(options.get(opt), item);
-            if (colour != null) {
-                colours.add(colour);
-            }
-        }
-        return colours;
-    }
-
-    private static boolean mayMeet(List<Integer> colours) {
-        if (colours.size() <= 1) {
-            return true;
-        }
-        return colours.stream().allMatch(colour -> colour != 0) && colours.stream().distinct().count() == 1;
+        return -1;
     }
 
     private static List<Integer> listOf(int mask) {
