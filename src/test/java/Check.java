@@ -1,7 +1,7 @@
 import java.util.TreeSet;
 import java.util.function.Consumer;
 
-/** What the tests share: naming sentences, counting wrong answers, entering options, and reading all that can be seen. */
+/** What the tests share: naming sentences, counting wrong answers, entering options, and reading what can be told. */
 final class Check {
     /** All from -20 to 70, and those around the powers of two, where narrowing, shifting and multiplying wrap. */
     static final int[] EDGE_INTS = edgeInts();
@@ -205,18 +205,6 @@ final class Check {
 
     static String sizes(ColorCover x) {
         return x.primaryCount() + "+" + x.secondaryCount();
-    }
-
-    static String options(ColorCover x) {
-        StringBuilder text = new StringBuilder().append(x.optionCount());
-        for (int opt = -1; opt <= 16; opt++) {
-            text.append(" [").append(x.optionSize(opt)).append(':');
-            for (int idx = -1; idx <= 20; idx++) {
-                text.append(' ').append(x.optionEntry(opt, idx));
-            }
-            text.append(']');
-        }
-        return text.toString();
     }
 
     static String results(ColorCover x) {

@@ -13,8 +13,8 @@ public final class MixedRunsTest {
 
     public static void main(String[] args) {
         for (int run = 0; run < RUNS; run++) {
-            int p = run % 8 == 0 ? oddOr(14) : 1 + below(run % 2 == 0 ? 4 : 12);
-            int s = run % 8 == 0 ? oddOr(10) : below(9);
+            int p = run % 8 == 0 ? edgeOr(14) : 1 + below(run % 2 == 0 ? 4 : 12);
+            int s = run % 8 == 0 ? edgeOr(10) : below(9);
             x = new ColorCover(p, s);
             plain = new PlainCover(p, s);
             // Few colours and small options make covers likely; the others make refusals likely.
@@ -35,7 +35,7 @@ public final class MixedRunsTest {
         return (int) ((state >>> 33) % bound);
     }
 
-    private static int oddOr(int bound) {
+    private static int edgeOr(int bound) {
         return below(12) == 0 ? Check.EDGE_INTS[below(Check.EDGE_INTS.length)] : below(bound + 1) - 1;
     }
 
@@ -53,10 +53,10 @@ public final class MixedRunsTest {
         } else if (kind < 71) {
             solve();
         } else if (kind < 80) {
-            int mask = below(4) == 0 ? oddOr(1 << 17) : below(1 << plain.options.size());
+            int mask = below(4) == 0 ? edgeOr(1 << 17) : below(1 << plain.options.size());
             Check.due("isCover(" + mask + ")", x.isCover(mask), plain.isCover(mask));
         } else {
-            read(oddOr(17), oddOr(20), oddOr(66));
+            read(edgeOr(17), edgeOr(20), edgeOr(66));
         }
     }
 
@@ -64,8 +64,8 @@ public final class MixedRunsTest {
         if (plain.pending.size() >= most) {
             Check.due("endOption()", x.endOption(), plain.endOption());
         }
-        int item = oddOr(plain.primaries + plain.secondaries + 1);
-        int colour = item < plain.primaries && below(10) != 0 ? 0 : oddOr(colours);
+        int item = edgeOr(plain.primaries + plain.secondaries + 1);
+        int colour = item < plain.primaries && below(10) != 0 ? 0 : edgeOr(colours);
         Check.due("addItem(" + item + ", " + colour + ")", x.addItem(item, colour), plain.addItem(item, colour));
         Check.due("pendingSize()", x.pendingSize(), plain.pending.size());
     }

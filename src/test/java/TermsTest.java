@@ -361,7 +361,8 @@ public final class TermsTest {
             for (int k = 0; k < 64 && k < count; k++) {
                 for (int other = 0; other < k; other++) {
                     boolean prefix = (Check.cover(x, other) + " ").startsWith(Check.cover(x, k) + " ");
-                    Check.due("cover " + k + " is a prefix of cover " + other + " in the state " + state, prefix, false);
+                    Check.due("cover " + k + " is a prefix of cover " + other + " in the state " + state,
+                        prefix, false);
                 }
             }
         }
